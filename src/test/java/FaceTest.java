@@ -9,7 +9,7 @@ import java.util.TreeSet;
 import java.util.regex.Matcher;
 import java.util.regex.Pattern;
 
-/** The public face is the one that the document prints, and the source keeps to what can be seen of ../shared/LANGUAGE.md. */
+/** The public face is the one that the document prints, and the source keeps to the words of ../shared/LANGUAGE.md. */
 public final class FaceTest {
     private static final Checks CHECKS = new Checks();
     private static final Path SOURCE = Path.of("src/main/java/ProxyVersions.java");

@@ -215,7 +215,8 @@ public final class ModelTest {
         }
         if (text.length() > 0 && random.nextInt(4) == 0) {
             int spoilt = random.nextInt(text.length());
-            text.setCharAt(spoilt, random.nextBoolean() ? (char) random.nextInt(256) : "w09 8ud".charAt(random.nextInt(7)));
+            char any = (char) random.nextInt(256);
+            text.setCharAt(spoilt, random.nextBoolean() ? any : "w09 8ud".charAt(random.nextInt(7)));
         }
         for (int i = 0; i < text.length() && calls < CALLS - 2; i++) {
             call("appendCharacter", (int) text.charAt(i));

@@ -80,6 +80,8 @@ public final class ScriptTest {
         run(x, "w3");
         due("x19: the up queue is lost", run(x, "x19"), 1);
         due("lost then", x.count(6), 4);
+        due("the up queue is empty", x.queued(1, 0, -1), 0);
+        due("the down queue is not", x.queued(1, 1, 0), 3);
         due("bound(0, 3) as before", x.bound(0, 3), 1);
         due("2 learns 302, then asks for 301", run(x, "d21a2"), 2);
         due("exception(2, 3, 0)", x.exception(2, 3, 0), -9);

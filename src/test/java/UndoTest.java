@@ -10,6 +10,7 @@ public final class UndoTest {
         sixAtMost();
         questionsAreNotSaved();
         aNewWayAfterUndo();
+        countsAndHomesComeBack();
         textStays();
         noneAfterSeven();
         CHECKS.end();
@@ -124,6 +125,24 @@ public final class UndoTest {
         fresh.undo();
         fresh.addProxy(0);
         due("an undone queue is empty", fresh.queued(1, 1, -1), 0);
+    }
+
+    private static void countsAndHomesComeBack() {
+        ProxyVersions x = new ProxyVersions();
+        x.addProxy(0);
+        for (int version = 1; version <= 13; version++) {
+            x.write(0);
+        }
+        due("overflows", x.count(5), 1);
+        x.undo();
+        due("overflows before", x.count(5), 0);
+        x.setHome(3, 1);
+        x.undo();
+        due("the home before", x.setHome(3, 1), 0);
+        x.setLimits(3, 4);
+        x.undo();
+        due("the limit before", x.count(1), 8);
+        due("M before", x.count(2), 12);
     }
 
     private static void textStays() {

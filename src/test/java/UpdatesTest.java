@@ -14,6 +14,7 @@ public final class UpdatesTest {
         evictionOfServed();
         evictionOfUnserved();
         evictionOfTheNewest();
+        evictionOfAWrite();
         lose();
         queued();
         CHECKS.end();
@@ -285,6 +286,22 @@ public final class UpdatesTest {
         due("kept(1, 0)", x.kept(1, 0), 2);
         due("status of 1", x.status(1, 0, 1), 2);
         due("status of 3", x.status(1, 0, 3), 2);
+    }
+
+    private static void evictionOfAWrite() {
+        ProxyVersions x = new ProxyVersions();
+        x.addProxy(0);
+        x.setLimits(8, 1);
+        x.setHome(3, 1);
+        x.write(1);
+        x.write(0);
+        x.lose(1, 1, 1);
+        x.deliver(1, 1, 1);
+        due("1 keeps what it does not serve", x.status(1, 0, 1), 1);
+        due("write(3) at 1", x.write(3), 1);
+        due("the write is the only one that it serves, and goes", x.status(1, 3, 1), 2);
+        due("kept(1, 0)", x.kept(1, 0), 1);
+        due("it waits for the root all the same", x.queued(1, 0, 0), 301);
     }
 
     private static void lose() {
