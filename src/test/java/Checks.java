@@ -1,15 +1,22 @@
 /** Counts and prints the answers that are not as due. */
 final class Checks {
+    private final boolean silent;
     private int made;
     private int wrong;
+
+    Checks() {
+        this(false);
+    }
+
+    Checks(boolean silent) {
+        this.silent = silent;
+    }
 
     void due(String call, long got, long due) {
         made++;
         if (got != due) {
             wrong++;
-            if (wrong <= 50) {
-                System.out.println(call + " answered " + got + ", due is " + due);
-            }
+            say(call + " answered " + got + ", due is " + due);
         }
     }
 
@@ -17,8 +24,18 @@ final class Checks {
         made++;
         if (!got.equals(due)) {
             wrong++;
-            System.out.println(call + " answered\n  " + got + "\ndue is\n  " + due);
+            say(call + " answered\n  " + got + "\ndue is\n  " + due);
         }
+    }
+
+    private void say(String line) {
+        if (!silent && wrong <= 50) {
+            System.out.println(line);
+        }
+    }
+
+    int made() {
+        return made;
     }
 
     int wrong() {
