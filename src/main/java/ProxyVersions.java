@@ -707,7 +707,7 @@ public final class ProxyVersions {
             findNeeds(origin, version);
             int missing = 0;
             for (int each = 0; each < ORIGINS; each++) {
-                for (int needed = 1; needed <= needs[each]; needed++) {
+                for (int needed = 1; needed <= MAX_VERSIONS && needed <= needs[each]; needed++) {
                     if (!state.knows(proxy, each, needed)) {
                         missing++;
                     }
@@ -733,7 +733,7 @@ public final class ProxyVersions {
         private boolean addCausesOf(int origin) {
             boolean grown = false;
             int last = origin >= 0 && origin < needs.length ? needs[origin] : 0;
-            for (int version = 1; version <= last; version++) {
+            for (int version = 1; version <= MAX_VERSIONS && version <= last; version++) {
                 for (int of = 0; of < ORIGINS; of++) {
                     int number = state.causeOf(origin, version, of);
                     if (number > needs[of]) {
@@ -882,7 +882,7 @@ public final class ProxyVersions {
             int learnedByAll = 0;
             int learned = 0;
             // a parent has a smaller number: ascending numbers ask in the order from the root down
-            for (int asking = 1; asking <= proxy; asking++) {
+            for (int asking = 1; asking < MAX_PROXIES && asking <= proxy; asking++) {
                 if (asking == proxy || state.isAbove(asking, proxy)) {
                     findGapsToFill(asking);
                     learned = 0;

@@ -143,7 +143,7 @@ final class FetchingSentences {
             c.due("served(1, 0), as its child has asked", y.served(1, 0), 4);
             c.due("served(2, 0)", y.served(2, 0), 4);
         }).brokenBy("int askUpward(", "arrive(asking,", "arrive(proxy,")
-                .brokenBy("int askUpward(", "int asking = 1; asking <= proxy", "int asking = 1; asking < proxy");
+                .brokenBy("int askUpward(", "asking <= proxy", "asking < proxy");
         s.says("`proxy`: number of a proxy, not of the root", c -> {
             for (int proxy = 1; proxy <= 7; proxy++) {
                 ProxyVersions x = Scenes.star(7);

@@ -548,7 +548,7 @@ final class LearningSentences {
             c.due("served(3, 0), not above it", y.served(3, 0), 0);
         }).brokenBy("int askUpward(", "asking == proxy || state.isAbove(asking, proxy)", "asking == proxy")
                 .brokenBy("int askUpward(", "asking == proxy || state.isAbove(asking, proxy)", "asking > ROOT")
-                .brokenBy("int askUpward(", "int asking = 1; asking <= proxy; asking++",
+                .brokenBy("int askUpward(", "int asking = 1; asking < MAX_PROXIES && asking <= proxy; asking++",
                         "int asking = proxy; asking >= 1; asking--");
         s.says("if it is not the root, asks upward.", c -> {
             ProxyVersions x = Scenes.fork();

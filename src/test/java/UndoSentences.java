@@ -171,6 +171,32 @@ final class UndoSentences {
             sentence.brokenBy("void copyFrom(State other) {",
                     part + "[proxy].copyFrom(other." + part + "[proxy]);", "");
         }
+        s.says("everything", c -> {
+            ProxyVersions x = Scenes.star(7);
+            x.setHome(3, 7);
+            x.write(3);
+            c.due("the last proxy learns", x.deliver(7, 0, 1), 1);
+            x.write(0);
+            c.due("the last proxy learns", x.deliver(7, 1, 1), 1);
+            c.due("bound(7, 0)", x.bound(7, 0), 1);
+            x.undo();
+            c.due("bound(7, 0) before", x.bound(7, 0), 0);
+            c.due("kept(7, 1) before", x.kept(7, 1), -9);
+            c.due("queued(7, 1, 0) before", x.queued(7, 1, 0), 1);
+            x.undo();
+            x.undo();
+            c.due("queued(7, 0, 0) before", x.queued(7, 0, 0), 301);
+            c.due("bound(0, 3) before", x.bound(0, 3), 0);
+            x.undo();
+            c.due("queued(7, 0, -1) before", x.queued(7, 0, -1), 0);
+            c.due("bound(7, 3) before", x.bound(7, 3), 0);
+            c.due("the last origin has not written before", x.cause(3, 1, 0), -1);
+            x.undo();
+            c.due("the home of the last origin before", x.setHome(3, 1), 0);
+        }).brokenBy("void copyFrom(State other) {", "MAX_PROXIES * ORIGINS", "MAX_PROXIES + ORIGINS")
+                .brokenBy("void copyFrom(State other) {", "proxy < MAX_PROXIES", "proxy < MAX_PROXIES - 1")
+                .brokenBy("void copyFrom(State other) {", "homes, 0, ORIGINS", "homes, 0, ORIGINS - 1")
+                .brokenBy("void copyFrom(State other) {", "written, 0, ORIGINS", "written, 0, ORIGINS - 1");
         s.says("but the text.", c -> {
             ProxyVersions x = Scenes.line(2);
             Scenes.type(x, "w0");

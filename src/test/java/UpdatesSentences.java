@@ -258,17 +258,19 @@ final class UpdatesSentences {
                 "arrive(receiver, sender, update); learned++;");
     }
 
+    /** Of the queues of the children 1 and 2, 101 waits in the first up queue, and 1 and 2 in both down queues. */
+    private static ProxyVersions waiting() {
+        ProxyVersions x = Scenes.star(2);
+        x.setHome(1, 1);
+        x.write(1);
+        return Scenes.write(x, 0, 2);
+    }
+
     private static void deliverErrors(Sentences s) {
-        Supplier<ProxyVersions> scene = () -> {
-            ProxyVersions x = Scenes.star(2);
-            x.setHome(1, 1);
-            x.write(1);
-            return Scenes.write(x, 0, 2);
-        };
         s.says("INVALID_ARGUMENT if an argument is out of range;", c -> {
-            Scenes.wrong(c, scene, "deliver(#, 1, 1)", (x, n) -> x.deliver(n, 1, 1), -1, 0, 3, 8);
-            Scenes.wrong(c, scene, "deliver(1, #, 1)", (x, n) -> x.deliver(1, n, 1), -1, 2);
-            Scenes.wrong(c, scene, "deliver(1, 1, #)", (x, n) -> x.deliver(1, 1, n), -1, 0, 10);
+            Scenes.wrong(c, UpdatesSentences::waiting, "deliver(#, 1, 1)", (x, n) -> x.deliver(n, 1, 1), -1, 0, 3, 8);
+            Scenes.wrong(c, UpdatesSentences::waiting, "deliver(1, #, 1)", (x, n) -> x.deliver(1, n, 1), -1, 2);
+            Scenes.wrong(c, UpdatesSentences::waiting, "deliver(1, 1, #)", (x, n) -> x.deliver(1, 1, n), -1, 0, 10);
         }).brokenBy("int deliverFirst(", "!isTakeable(count)", "count < 1")
                 .brokenBy("int deliverFirst(", "!isTakeable(count)", "count > 9")
                 .brokenBy("private static boolean isTakeable(", "count >= 1", "count >= 0")
@@ -278,10 +280,10 @@ final class UpdatesSentences {
                 .brokenBy("boolean hasChild(", "child < proxies", "child <= proxies")
                 .brokenBy("boolean hasChild(", "child > ROOT", "child >= ROOT");
         s.says("ILLEGAL_STATE if the queue is empty.", c -> {
-            Twins twins = new Twins(c, scene);
+            Twins twins = new Twins(c, UpdatesSentences::waiting);
             twins.refuse("deliver(2, 0, 1)", x -> x.deliver(2, 0, 1), -2);
             twins.refuse("deliver(2, 0, 9)", x -> x.deliver(2, 0, 9), -2);
-            ProxyVersions x = scene.get();
+            ProxyVersions x = waiting();
             x.deliver(1, 1, 2);
             c.due("deliver(1, 1, 1), when all are taken", x.deliver(1, 1, 1), -2);
             x.lose(1, 0, 1);
@@ -351,26 +353,20 @@ final class UpdatesSentences {
     }
 
     private static void loseErrors(Sentences s) {
-        Supplier<ProxyVersions> scene = () -> {
-            ProxyVersions x = Scenes.star(2);
-            x.setHome(1, 1);
-            x.write(1);
-            return Scenes.write(x, 0, 2);
-        };
         s.says("INVALID_ARGUMENT if an argument is out of range;", c -> {
-            Scenes.wrong(c, scene, "lose(#, 1, 1)", (x, n) -> x.lose(n, 1, 1), -1, 0, 3, 8);
-            Scenes.wrong(c, scene, "lose(1, #, 1)", (x, n) -> x.lose(1, n, 1), -1, 2);
-            Scenes.wrong(c, scene, "lose(1, 1, #)", (x, n) -> x.lose(1, 1, n), -1, 0, 10);
+            Scenes.wrong(c, UpdatesSentences::waiting, "lose(#, 1, 1)", (x, n) -> x.lose(n, 1, 1), -1, 0, 3, 8);
+            Scenes.wrong(c, UpdatesSentences::waiting, "lose(1, #, 1)", (x, n) -> x.lose(1, n, 1), -1, 2);
+            Scenes.wrong(c, UpdatesSentences::waiting, "lose(1, 1, #)", (x, n) -> x.lose(1, 1, n), -1, 0, 10);
         }).brokenBy("int loseFirst(", "!isTakeable(count)", "count < 1")
                 .brokenBy("int loseFirst(", "!isTakeable(count)", "count > 9")
                 .brokenBy("int loseFirst(", "!state.hasQueue(child, direction) ||", "")
                 .brokenBy("boolean hasChild(", "child < proxies", "child <= proxies")
                 .brokenBy("boolean hasChild(", "child > ROOT", "child >= ROOT");
         s.says("ILLEGAL_STATE if the queue is empty.", c -> {
-            Twins twins = new Twins(c, scene);
+            Twins twins = new Twins(c, UpdatesSentences::waiting);
             twins.refuse("lose(2, 0, 1)", x -> x.lose(2, 0, 1), -2);
             twins.refuse("lose(2, 0, 9)", x -> x.lose(2, 0, 9), -2);
-            ProxyVersions x = scene.get();
+            ProxyVersions x = waiting();
             x.lose(1, 1, 2);
             c.due("lose(1, 1, 1), when all are lost", x.lose(1, 1, 1), -2);
             x.deliver(1, 0, 1);
