@@ -66,6 +66,13 @@ final class OtherClass extends ClassLoader {
         return complaints.getDiagnostics().toString();
     }
 
+    /** What a static method without parameters answers. */
+    Object answer(String type, String name) throws ReflectiveOperationException {
+        Method method = loadClass(type).getDeclaredMethod(name);
+        method.setAccessible(true);
+        return method.invoke(null);
+    }
+
     /** Whatever is thrown counts as a wrong answer. */
     int wrongAnswers(int group, int number) {
         try {
