@@ -53,7 +53,7 @@ public final class CiTest {
         return program(name, "System.exit(1);");
     }
 
-    /** Starts .ci/run on a small project, where these texts stand instead of the usual ones; an empty one is left out. */
+    /** Starts .ci/run on a small project with these texts instead of the usual ones; an empty one is left out. */
     private void due(String what, Map<String, String> changes, int exitCode, String lastLine) {
         Map<String, String> files = new LinkedHashMap<>();
         files.put(CLASS, "public final class ProxyVersions { }");

@@ -52,7 +52,8 @@ import javax.tools.ToolProvider;
 
 /**
  * Looks through a source with the compiler's own tree for what ../shared/LANGUAGE.md leaves out. It is stricter than
- * the rules: what the class has no need of (texts, lists, recursion, objects made after the constructor) is left out too.
+ * the rules: what the class has no need of (texts, lists, recursion, objects made after the constructor) is left out
+ * too.
  */
 final class LanguageRules extends TreePathScanner<Void, Void> {
     private static final int MOST_CLASSES = 12;

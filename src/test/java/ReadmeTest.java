@@ -13,7 +13,7 @@ import java.util.stream.Stream;
 public final class ReadmeTest {
     private static final Checks CHECKS = new Checks();
     private static final Path TESTS = Path.of("src/test/java");
-    /** A call whose answer the comment begins with: 1 the variable that it is put into, if any, 2 the call, 3 the answer. */
+    /** The comment begins with the answer: 1 the variable that takes it, if there is one, 2 the call, 3 the answer. */
     private static final Pattern TOLD =
             Pattern.compile("(?m)^(?:int (\\w+) = )?(\\S.*?);\\s+// (-?\\d+|[A-Z_]{2,})\\b.*$");
 
